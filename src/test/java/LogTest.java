@@ -114,6 +114,14 @@ public final class LogTest {
         Expect.equal("a length of 9 is none", y.crash(28, 8, 1), 0);
         Expect.equal("nothing is left", y.count(2), 0);
 
+        RunStore v = new RunStore(1);
+        v.put(0x7F7F7F7F7F7F7F7FL, 0x7E7EL, 2);
+        Expect.equal("a sum above 127", v.logged(11), (8 * 127 + 2 + 2 * 126) % 256);
+        v.put(200, 0, 0);
+        Expect.equal("a sum of 200", v.logged(21), 200);
+        Expect.equal("both are right", v.crash(22, -1, 0), 2);
+        Expect.equal("the highest bit counts", v.crash(22, 21, 128), 1);
+
         RunStore z = new RunStore(1);
         z.drop(1);
         z.drop(2);

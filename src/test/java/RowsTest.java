@@ -11,6 +11,7 @@ public final class RowsTest {
         promise3();
         promise6And7();
         promise6And7Reading();
+        promise6And7Ends();
         promise6And7Faults();
         promise8();
         promise8Faults();
@@ -206,6 +207,49 @@ public final class RowsTest {
         x.find(other);
         Expect.equal("the newest table had it, the older was not asked", x.count(6), 2);
         Expect.equal("one block more", x.count(5), before + 1);
+    }
+
+    /** What lies behind the last entry is no entry, though 0 looks like one of key 0. */
+    private static void promise6And7Ends() {
+        RunStore x = new RunStore(60);
+        x.put(1, 1, 8);
+        x.put(2, 2, 6);
+        Expect.equal("32 bytes", x.flush(), 1);
+        long above = passing(x, 0, 3, 1000000);
+        Expect.equal("above the last one", x.length(above), -1);
+        Expect.equal("no fault behind the end", x.badAt(), -1);
+        Expect.equal("one block", x.count(5), 1);
+
+        RunStore y = new RunStore(60);
+        long below = negativeWithBitsOf0();
+        y.put(below, 1, 1);
+        y.flush();
+        Expect.isTrue("key 0 passes the filter", y.may(0, 0));
+        Expect.equal("key 0 is not there", y.length(0), -1);
+        Expect.equal("its block was read", y.count(5), 1);
+        Expect.equal("and is above none", y.after(below), below);
+
+        RunStore z = new RunStore(60);
+        z.put(1, 1, 8);
+        z.put(2, 2, 7);
+        Expect.equal("33 bytes", z.flush(), 2);
+        z.poke(1, 31, 1);
+        Expect.equal("the first one", z.find(1), 1);
+        Expect.refuses("a last byte in the next block", STATE, () -> z.find(2));
+        Expect.equal("that block", z.badAt(), 1);
+    }
+
+    private static long negativeWithBitsOf0() {
+        for (long key = -1; key > -1000000; key--) {
+            RunStore x = new RunStore(0);
+            x.drop(key);
+            x.flush();
+            if (x.may(0, 0)) {
+                return key;
+            }
+        }
+        Expect.isTrue("a key with the bits of 0", false);
+        return -1;
     }
 
     /** The first key from a given one that a table's filter lets through, or the last when there is none. */

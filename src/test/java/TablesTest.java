@@ -53,6 +53,18 @@ public final class TablesTest {
         y.put(1, 1, 8);
         y.put(2, 1, 7);
         Expect.equal("33 bytes", y.flush(), 2);
+
+        RunStore z = new RunStore(60);
+        for (int k = 0; k < 24; k++) {
+            z.put(k, -1, 8);
+        }
+        Expect.equal("408 bytes", z.flush(), 13);
+        // the last entry begins at 391, byte 7 of the last block
+        bytes(z, 12, 255, 255, 255, 255, 255, 255, 255, 0, 0, 0, 0, 0, 0, 0, 23, 8,
+            255, 255, 255, 255, 255, 255, 255, 255);
+        z.put(5, 5, 1);
+        z.flush();
+        bytes(z, 13, 0, 0, 0, 0, 0, 0, 0, 5, 1, 5);
     }
 
     private static void promise4Refusals() {
@@ -78,6 +90,10 @@ public final class TablesTest {
         Expect.refusesAndKeeps("no keys, 16 tables", STATE, y, y::flush);
         y.put(16, 16, 1);
         Expect.refusesAndKeeps("16 tables", UNSUPPORTED, y, y::flush);
+        Expect.equal("one of none of them", y.length(-9), -1);
+        Expect.equal("one of the oldest", y.find(0), 0);
+        Expect.refuses("a 17th", INDEX, () -> y.may(16, 0));
+        Expect.refuses("a 17th table", INDEX, () -> y.table(16, 0));
         y.join(0);
         Expect.equal("one table", y.count(3), 1);
         Expect.equal("room again", y.flush(), 1);
