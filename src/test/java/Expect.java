@@ -6,8 +6,26 @@ final class Expect {
 
     private static int done;
     private static int wrong;
+    private static String named = "";
+    private static int told;
 
     private Expect() {
+    }
+
+    /** A test with a name of its own: what is wrong in it is told by this name, and ends no other test. */
+    static void named(String name, Call test) {
+        named = name + ": ";
+        told = 0;
+        int before = done;
+        try {
+            test.run();
+        } catch (RuntimeException e) {
+            tell("threw " + e + (e.getStackTrace().length > 0 ? " at " + e.getStackTrace()[0] : ""));
+        }
+        if (done == before) {
+            tell("looked at nothing");
+        }
+        named = "";
     }
 
     static void equal(String what, long got, long due) {
@@ -27,8 +45,21 @@ final class Expect {
     static void same(String what, String got, String due) {
         done++;
         if (!got.equals(due)) {
-            tell(what + ":\n  got " + got + "\n  due " + due);
+            int from = Math.max(0, firstDifference(got, due) - 30);
+            tell(what + " from character " + from + ":\n  got " + part(got, from) + "\n  due " + part(due, from));
         }
+    }
+
+    private static int firstDifference(String a, String b) {
+        int at = 0;
+        while (at < a.length() && at < b.length() && a.charAt(at) == b.charAt(at)) {
+            at++;
+        }
+        return at;
+    }
+
+    private static String part(String text, int from) {
+        return text.substring(Math.min(from, text.length()), Math.min(from + 120, text.length()));
     }
 
     /** The very class is asked for: a class below it would be thrown by the machine. */
@@ -89,8 +120,9 @@ final class Expect {
 
     private static void tell(String text) {
         wrong++;
-        if (wrong <= 40) {
-            System.out.println(text);
+        told++;
+        if (told <= (named.isEmpty() ? 40 : 3)) {
+            System.out.println(named + text);
         }
     }
 

@@ -1,14 +1,9 @@
-import java.util.HashMap;
-import java.util.Map;
-
 /**
  * Blocks that were altered so that their sums are right all the same: the faults of a length that
  * is none, and of an entry that goes beyond the last block, can be seen in no other way.
  */
 public final class ForgedTest {
     private static final Class<IllegalStateException> STATE = IllegalStateException.class;
-    private static final int FACTOR = 374761393;
-    private static final int PARTS = 1 << 18;
 
     public static void main(String[] args) {
         lengthIsNone();
@@ -21,51 +16,10 @@ public final class ForgedTest {
 
     /** Alters byte i of a table's k-th block, and six bytes from a given one, so that the sum stays right. */
     private static void forge(RunStore x, int block, int k, int i, int mask, int from) {
-        int[] bytes = new int[32];
-        for (int b = 0; b < 32; b++) {
-            bytes[b] = x.byteAt(block, b);
-        }
-        bytes[i] ^= mask;
-        int front = k;
-        for (int b = 0; b < from; b++) {
-            front = forward(front, bytes[b]);
-        }
-        int back = x.sum(block);
-        for (int b = 31; b >= from + 6; b--) {
-            back = backward(back, bytes[b]);
-        }
-        x.poke(block, i, mask);
-        int[] six = meet(front, back);
-        for (int b = 0; b < 6; b++) {
-            x.poke(block, from + b, x.byteAt(block, from + b) ^ six[b]);
+        for (int[] p : Forge.pokes(x, block, k, i, mask, from)) {
+            x.poke(p[0], p[1], p[2]);
         }
         Expect.equal("a forged block is right", x.check(), -1);
-    }
-
-    private static int[] meet(int front, int back) {
-        Map<Integer, Integer> reached = new HashMap<>();
-        for (int part = 0; part < PARTS; part++) {
-            reached.put(forward(forward(forward(front, part & 255), part >> 8 & 255), part >> 16), part);
-        }
-        for (int part = 0; part < 1 << 24; part++) {
-            Integer first = reached.get(backward(backward(backward(back, part & 255), part >> 8 & 255), part >> 16));
-            if (first != null) {
-                return new int[] {first & 255, first >> 8 & 255, first >> 16, part >> 16, part >> 8 & 255, part & 255};
-            }
-        }
-        throw new IllegalStateException("no forgery found");
-    }
-
-    private static int forward(int s, int b) {
-        return Integer.rotateLeft(s ^ b, 15) * FACTOR;
-    }
-
-    private static int backward(int s, int b) {
-        int inverse = FACTOR;
-        for (int round = 0; round < 5; round++) {
-            inverse *= 2 - FACTOR * inverse;
-        }
-        return Integer.rotateRight(s * inverse, 15) ^ b;
     }
 
     private static void faults(RunStore x, String name, long key, int block) {
