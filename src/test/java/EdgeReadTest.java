@@ -214,6 +214,17 @@ public final class EdgeReadTest {
             Expect.equal("passed by", x.count(6), 15);
             Expect.equal("checked", x.count(5), 1);
         });
+        Edge.test(promise, "if the filter has not both bits it is passed by: all of 16 tables", () -> {
+            RunStore x = new RunStore(124);
+            for (int t = 0; t < 16; t++) {
+                Edge.tableOf(x, 1, 1, 1);
+            }
+            Expect.equal("not there", ask.of(x, 2), promise == 6 ? 0 : -1);
+            Expect.equal("passed by", x.count(6), 16);
+            long key = keyWith(true, true, Edge.bits(1));
+            Expect.equal("not there, though in all filters", ask.of(x, key), promise == 6 ? 0 : -1);
+            Expect.equal("checked", x.count(5), 16);
+        });
         Edge.test(promise, "if the filter has not both bits it is passed by: altered or not", () -> {
             RunStore x = new RunStore(0);
             Edge.tableOf(x, 1, 1, 1);
