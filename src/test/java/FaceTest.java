@@ -30,6 +30,7 @@ public final class FaceTest {
         members();
         namesInside();
         source();
+        asTheDocumentWritesIt();
         Expect.equal("NONE", RunStore.NONE, -1);
         Expect.end("FaceTest");
     }
@@ -94,5 +95,23 @@ public final class FaceTest {
             Expect.isTrue("no " + word + " in the class", !Pattern.compile(word).matcher(code).find());
         }
         Expect.isTrue("characters 0 to 255", text.chars().allMatch(c -> c < 256));
+    }
+
+    /** Each line of the document's face stands in the class, with its parameters and exceptions. */
+    private static void asTheDocumentWritesIt() throws IOException {
+        String text = Files.readString(Path.of("src/main/java/RunStore.java")).replaceAll("\\s+", " ");
+        List<String> document = Files.readAllLines(Path.of("../shared/DOC.md"));
+        int from = document.indexOf("```java");
+        Expect.isTrue("the document has a face", from >= 0);
+        int found = 0;
+        for (int i = from + 1; i < document.size() && !document.get(i).equals("```"); i++) {
+            String line = document.get(i).trim();
+            if (line.startsWith("public ")) {
+                String due = line.endsWith(";") && !line.contains("=") ? line.replace(";", " {") : line;
+                Expect.isTrue(line + " stands in the class", text.contains(due));
+                found++;
+            }
+        }
+        Expect.equal("the class, a constant, a constructor and the methods", found, 3 + FACE.length);
     }
 }

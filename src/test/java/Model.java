@@ -159,6 +159,15 @@ final class Model {
         return s;
     }
 
+    /** The which block of its table a block is; -1 when it is free. */
+    int turnOf(int block) {
+        int turn = -1;
+        for (Sheet s : sheets()) {
+            turn = Math.max(turn, s.ids.indexOf(block));
+        }
+        return turn;
+    }
+
     int flush() {
         if (memory.isEmpty()) {
             throw new IllegalStateException();

@@ -4,6 +4,10 @@ import java.util.Random;
 public final class ModelTest {
     private static final int RUNS = 1500;
     private static final int CALLS = 512;
+    private static final int FORGED_RUNS = 150;
+    private static final int FORGERIES = 2;
+
+    private static int forged;
 
     private final Random chance;
     private final RunStore store;
@@ -28,6 +32,10 @@ public final class ModelTest {
         for (int seed = 0; seed < RUNS; seed++) {
             new ModelTest(seed).run(seed);
         }
+        for (int seed = 0; seed < FORGED_RUNS; seed++) {
+            new ModelTest(-1 - seed).runForged("forged seed " + seed + " ");
+        }
+        Expect.isTrue("most runs have forged blocks", forged > FORGED_RUNS);
         Expect.end("ModelTest");
     }
 
@@ -40,6 +48,54 @@ public final class ModelTest {
             Expect.equal("seed " + seed + " call " + call + " badAt", store.badAt(), model.badAt());
         }
         compareAll("seed " + seed + " at its end ");
+    }
+
+    /** Blocks altered with their sums right: all that is read of them is what the model reads. */
+    private void runForged(String at) {
+        for (int part = 0; part < FORGERIES; part++) {
+            for (int call = 0; call < 60; call++) {
+                step(at + "call " + call + " ");
+            }
+            forge();
+            for (int call = 0; call < 15; call++) {
+                long key = key();
+                compare(at + "find", () -> store.find(key), () -> model.find(key));
+                compare(at + "badAt of find", store::badAt, model::badAt);
+                compare(at + "length", () -> store.length(key), () -> model.length(key));
+                compare(at + "after", () -> store.after(key), () -> model.after(key));
+                compare(at + "badAt of after", store::badAt, model::badAt);
+            }
+            int level = chance.nextInt(3);
+            compare(at + "join", () -> store.join(level), () -> model.join(level));
+            compare(at + "badAt of join", store::badAt, model::badAt);
+            compare(at + "checked", () -> store.count(5), () -> model.count(5));
+        }
+        compareAll(at + "at its end ");
+    }
+
+    /** Alters a byte that may be a length to another one, or to none, in a block of a table. */
+    private void forge() {
+        int block = chance.nextInt(model.blocks);
+        for (int tried = 0; tried < model.blocks && model.turnOf(block) < 0; tried++) {
+            block = (block + 1) % model.blocks;
+        }
+        int i = chance.nextInt(32);
+        for (int tried = 0; tried < 32 && (model.byteAt(block, i) == 0 || model.byteAt(block, i) > 8); tried++) {
+            i = (i + 1) % 32;
+        }
+        if (model.turnOf(block) < 0 || model.check() != RunStore.NONE) {
+            return;
+        }
+        int kind = chance.nextInt(8);
+        int length = kind < 6 ? chance.nextInt(9) : kind == 6 ? 255 : 9 + chance.nextInt(246);
+        int from = i < 26 && chance.nextBoolean() ? i + 1 : chance.nextInt(27);
+        int mask = model.byteAt(block, i) ^ length;
+        for (int[] p : Forge.pokes(store, block, model.turnOf(block), i, mask, from)) {
+            store.poke(p[0], p[1], p[2]);
+            model.poke(p[0], p[1], p[2]);
+        }
+        Expect.equal("a forged block is right", store.check(), RunStore.NONE);
+        forged++;
     }
 
     private void compareAll(String at) {
